@@ -1,0 +1,35 @@
+/** Counts the answers of a test that are not as due. */
+final class Check {
+    private int wrong = 0;
+
+    interface Call {
+        Object run();
+    }
+
+    void due(String call, Object want, Call run) {
+        Object got;
+        try {
+            got = run.run();
+        } catch (RuntimeException thrown) {
+            got = thrown.getClass();
+        }
+        if (!want.equals(got)) {
+            wrong++;
+            System.out.println(call + " answered " + got + ", due is " + want);
+        }
+    }
+
+    /** As due, and a call that throws has to leave the lodge as it was. */
+    void refused(String call, LodgeProofs lodge, Class<?> want, Call run) {
+        long before = lodge.digest();
+        due(call, want, run);
+        due("the digest after " + call, before, lodge::digest);
+    }
+
+    void end(String test) {
+        if (wrong > 0) {
+            System.out.println(test + ": " + wrong + " answers are not as due");
+            System.exit(1);
+        }
+    }
+}
