@@ -19,11 +19,15 @@ final class Check {
         }
     }
 
-    /** As due, and a call that throws has to leave the lodge as it was. */
-    void refused(String call, LodgeProofs lodge, Class<?> want, Call run) {
+    /** As due, for a call that has to leave the lodge as it was. */
+    void unchanged(String call, LodgeProofs lodge, Object want, Call run) {
         long before = lodge.digest();
         due(call, want, run);
         due("the digest after " + call, before, lodge::digest);
+    }
+
+    void refused(String call, LodgeProofs lodge, Class<?> want, Call run) {
+        unchanged(call, lodge, want, run);
     }
 
     void end(String test) {
