@@ -18,6 +18,8 @@ public final class TheLodgeTest {
         patchRefused();
         withdraw();
         strike();
+        struckIsForgotten();
+        fullLodge();
         strikeRefused();
         check.end("TheLodgeTest");
     }
@@ -277,6 +279,54 @@ public final class TheLodgeTest {
         check.due("strike behind it", 1, () -> middle.strike(0, 1));
         check.due("in no circle then", 0, () -> middle.told(0, 6));
         check.due("proved still", 1, () -> middle.told(0, 2));
+    }
+
+    private static void struckIsForgotten() {
+        LodgeProofs x = withGap(4);
+        x.withdraw(0, 0, 0);
+        x.withdraw(0, 0, 1);
+        x.strike(0, 0);
+        x.proof(0);
+        x.cite(0, 0, 2, 3);
+        x.cite(0, 0, 0, 1);
+        dueSteps("cited anew", x, 0, new int[][] {{2, 3, 3, 0}, {0, 1, 0, 0}});
+        check.due("what was open before counts no more", 3, () -> x.count(5));
+    }
+
+    /** Each place of each proof of each lemma, so that none shares its row with another. */
+    private static void fullLodge() {
+        LodgeProofs x = new LodgeProofs();
+        for (int lemma = 0; lemma < 12; lemma++) {
+            x.lemma();
+            for (int proof = 0; proof < 3; proof++) {
+                x.proof(lemma);
+                for (int place = 0; place < 5; place++) {
+                    x.cite(lemma, proof, 2, (lemma + 3 * proof + 2 * place) % 9 + 1);
+                }
+            }
+        }
+        check.due("full: count(4)", 180, () -> x.count(4));
+        dueFull(x, 11, 2, 2);
+        dueFull(x, 0, 0, 0);
+        dueFull(x, 5, 1, 1);
+        check.due("strike(11, 0)", 2, () -> x.strike(11, 0));
+        dueFull(x, 11, 0, 1);
+        dueFull(x, 11, 1, 2);
+        check.due("strike(11, 1)", 1, () -> x.strike(11, 1));
+        dueFull(x, 11, 0, 1);
+        check.due("strike(4, 2)", 2, () -> x.strike(4, 2));
+        dueFull(x, 4, 1, 1);
+        dueFull(x, 5, 0, 0);
+        check.due("three struck: count(4)", 165, () -> x.count(4));
+    }
+
+    /** A proof of the full lodge has the steps that it was given as the proof `was`. */
+    private static void dueFull(LodgeProofs x, int lemma, int proof, int was) {
+        for (int place = 0; place < 5; place++) {
+            int there = place;
+            check.due("full: step(" + lemma + ", " + proof + ", " + place + ", 1)",
+                    (lemma + 3 * was + 2 * place) % 9 + 1, () -> x.step(lemma, proof, there, 1));
+        }
     }
 
     private static void strikeRefused() {

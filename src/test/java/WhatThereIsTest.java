@@ -402,6 +402,13 @@ public final class WhatThereIsTest {
         check.due("none again", -1, () -> x.best(0));
         LodgeProofs none = lodge(1, 0);
         check.due("without proofs", -1, () -> none.best(0));
+        LodgeProofs struck = lodge(1, 2);
+        struck.cite(0, 0, 0, 0);
+        struck.cite(0, 0, 0, 0);
+        struck.cite(0, 1, 0, 0);
+        check.due("the last one", 1, () -> struck.best(0));
+        struck.strike(0, 1);
+        check.due("the last one is struck", 0, () -> struck.best(0));
     }
 
     private static void refused() {

@@ -122,6 +122,9 @@ public final class WhatWouldBeTest {
         check.unchanged("the smaller proof", x, 112, x::advise);
         x.cite(1, 0, 1, 2);
         check.unchanged("the most lemmas first", x, 200, x::advise);
+        x.cite(0, 0, 2, 5);
+        x.cite(1, 0, 2, 5);
+        check.unchanged("the first of all", x, 0, x::advise);
     }
 
     private static void adviseThroughCircle() {
