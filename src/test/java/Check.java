@@ -1,21 +1,34 @@
 /** Counts the answers of a test that are not as due. */
 final class Check {
+    static final Class<?> INDEX = IndexOutOfBoundsException.class;
+    static final Class<?> ARGUMENT = IllegalArgumentException.class;
+    static final Class<?> STATE = IllegalStateException.class;
+
     private int wrong = 0;
+    private String heading = "";
 
     interface Call {
         Object run();
     }
 
-    void due(String call, Object want, Call run) {
-        Object got;
+    /** What the calls from now on are about; it is told together with a wrong answer. */
+    void heading(String about) {
+        heading = about.isEmpty() ? "" : about + " | ";
+    }
+
+    static Object answer(Call run) {
         try {
-            got = run.run();
+            return run.run();
         } catch (RuntimeException thrown) {
-            got = thrown.getClass();
+            return thrown.getClass();
         }
+    }
+
+    void due(String call, Object want, Call run) {
+        Object got = answer(run);
         if (!want.equals(got)) {
             wrong++;
-            System.out.println(call + " answered " + got + ", due is " + want);
+            System.out.println(heading + call + " answered " + got + ", due is " + want);
         }
     }
 

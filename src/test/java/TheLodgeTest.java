@@ -1,8 +1,5 @@
 /** Promises 1 to 8: the lodge. */
 public final class TheLodgeTest {
-    private static final Class<?> INDEX = IndexOutOfBoundsException.class;
-    private static final Class<?> ARGUMENT = IllegalArgumentException.class;
-    private static final Class<?> STATE = IllegalStateException.class;
     private static final int[] OUTSIDE = {Integer.MIN_VALUE, -1, Integer.MAX_VALUE};
 
     private static final Check check = new Check();
@@ -31,7 +28,7 @@ public final class TheLodgeTest {
             int asked = what;
             check.due("new: count(" + what + ")", counts[what], () -> x.count(asked));
         }
-        check.due("new: told(0, 0)", INDEX, () -> x.told(0, 0));
+        check.due("new: told(0, 0)", Check.INDEX, () -> x.told(0, 0));
         check.due("new: mean()", 0.0, x::mean);
         check.due("new: advise()", -1, x::advise);
         long d = 1847;
@@ -60,9 +57,9 @@ public final class TheLodgeTest {
         check.due("told(0, 2) without axiom 4", 0, () -> x.told(0, 2));
         check.due("take(4, true)", false, () -> x.take(4, true));
         check.due("told(0, 2) with axiom 4", 1, () -> x.told(0, 2));
-        check.refused("take(5, true)", x, INDEX, () -> x.take(5, true));
+        check.refused("take(5, true)", x, Check.INDEX, () -> x.take(5, true));
         for (int axiom : OUTSIDE) {
-            check.refused("take(" + axiom + ", false)", x, INDEX, () -> x.take(axiom, false));
+            check.refused("take(" + axiom + ", false)", x, Check.INDEX, () -> x.take(axiom, false));
         }
     }
 
@@ -75,13 +72,13 @@ public final class TheLodgeTest {
             check.due("told(" + number + ", 0)", 0, () -> x.told(asked, 0));
             check.due("told(" + number + ", 3)", -1, () -> x.told(asked, 3));
         }
-        check.refused("the 13th lemma()", x, STATE, x::lemma);
+        check.refused("the 13th lemma()", x, Check.STATE, x::lemma);
         check.due("count(0)", 12, () -> x.count(0));
     }
 
     private static void proof() {
         LodgeProofs x = new LodgeProofs();
-        check.refused("proof(0) without lemmas", x, INDEX, () -> x.proof(0));
+        check.refused("proof(0) without lemmas", x, Check.INDEX, () -> x.proof(0));
         x.lemma();
         x.lemma();
         for (int number = 0; number < 3; number++) {
@@ -90,12 +87,12 @@ public final class TheLodgeTest {
             check.due("told(1, 0)", number + 1, () -> x.told(1, 0));
             check.due("about(1, " + number + ", 0)", 0, () -> x.about(1, asked, 0));
         }
-        check.refused("the 4th proof(1)", x, STATE, () -> x.proof(1));
+        check.refused("the 4th proof(1)", x, Check.STATE, () -> x.proof(1));
         check.due("told(0, 0)", 0, () -> x.told(0, 0));
         check.due("proof(0)", 0, () -> x.proof(0));
-        check.refused("proof(2)", x, INDEX, () -> x.proof(2));
+        check.refused("proof(2)", x, Check.INDEX, () -> x.proof(2));
         for (int lemma : OUTSIDE) {
-            check.refused("proof(" + lemma + ")", x, INDEX, () -> x.proof(lemma));
+            check.refused("proof(" + lemma + ")", x, Check.INDEX, () -> x.proof(lemma));
         }
     }
 
@@ -120,13 +117,13 @@ public final class TheLodgeTest {
             }
         }
         check.due("the other proof's steps", 0, () -> x.about(1, 0, 0));
-        check.refused("a 6th cite of an axiom", x, STATE, () -> x.cite(1, 1, 0, 0));
-        check.refused("a 6th cite of a lemma", x, STATE, () -> x.cite(1, 1, 1, 0));
-        check.refused("a 6th cite of a gap", x, STATE, () -> x.cite(1, 1, 2, 5));
-        check.refused("a 6th cite of a gap of 0", x, ARGUMENT, () -> x.cite(1, 1, 2, 0));
-        check.refused("a 6th cite of kind 3", x, INDEX, () -> x.cite(1, 1, 3, 0));
-        check.refused("a 6th cite of axiom 5", x, INDEX, () -> x.cite(1, 1, 0, 5));
-        check.refused("a 6th cite of lemma 2", x, INDEX, () -> x.cite(1, 1, 1, 2));
+        check.refused("a 6th cite of an axiom", x, Check.STATE, () -> x.cite(1, 1, 0, 0));
+        check.refused("a 6th cite of a lemma", x, Check.STATE, () -> x.cite(1, 1, 1, 0));
+        check.refused("a 6th cite of a gap", x, Check.STATE, () -> x.cite(1, 1, 2, 5));
+        check.refused("a 6th cite of a gap of 0", x, Check.ARGUMENT, () -> x.cite(1, 1, 2, 0));
+        check.refused("a 6th cite of kind 3", x, Check.INDEX, () -> x.cite(1, 1, 3, 0));
+        check.refused("a 6th cite of axiom 5", x, Check.INDEX, () -> x.cite(1, 1, 0, 5));
+        check.refused("a 6th cite of lemma 2", x, Check.INDEX, () -> x.cite(1, 1, 1, 2));
     }
 
     private static void citeRefused() {
@@ -134,38 +131,29 @@ public final class TheLodgeTest {
         x.lemma();
         x.lemma();
         x.proof(0);
-        check.refused("cite(2, 0, 0, 0)", x, INDEX, () -> x.cite(2, 0, 0, 0));
-        check.refused("cite(0, 1, 0, 0)", x, INDEX, () -> x.cite(0, 1, 0, 0));
-        check.refused("cite(1, 0, 0, 0)", x, INDEX, () -> x.cite(1, 0, 0, 0));
-        check.refused("cite(0, 0, 3, 1)", x, INDEX, () -> x.cite(0, 0, 3, 1));
-        check.refused("cite(0, 0, 0, 5)", x, INDEX, () -> x.cite(0, 0, 0, 5));
-        check.refused("cite(0, 0, 1, 2)", x, INDEX, () -> x.cite(0, 0, 1, 2));
-        check.refused("cite(0, 0, 2, 0)", x, ARGUMENT, () -> x.cite(0, 0, 2, 0));
-        check.refused("cite(0, 0, 2, 10)", x, ARGUMENT, () -> x.cite(0, 0, 2, 10));
-        check.refused("cite(2, 0, 2, 0)", x, INDEX, () -> x.cite(2, 0, 2, 0));
-        check.refused("cite(0, 1, 2, 10)", x, INDEX, () -> x.cite(0, 1, 2, 10));
-        check.refused("cite(0, 0, 3, 0)", x, INDEX, () -> x.cite(0, 0, 3, 0));
+        check.refused("cite(2, 0, 0, 0)", x, Check.INDEX, () -> x.cite(2, 0, 0, 0));
+        check.refused("cite(0, 1, 0, 0)", x, Check.INDEX, () -> x.cite(0, 1, 0, 0));
+        check.refused("cite(1, 0, 0, 0)", x, Check.INDEX, () -> x.cite(1, 0, 0, 0));
+        check.refused("cite(0, 0, 3, 1)", x, Check.INDEX, () -> x.cite(0, 0, 3, 1));
+        check.refused("cite(0, 0, 0, 5)", x, Check.INDEX, () -> x.cite(0, 0, 0, 5));
+        check.refused("cite(0, 0, 1, 2)", x, Check.INDEX, () -> x.cite(0, 0, 1, 2));
+        check.refused("cite(0, 0, 2, 0)", x, Check.ARGUMENT, () -> x.cite(0, 0, 2, 0));
+        check.refused("cite(0, 0, 2, 10)", x, Check.ARGUMENT, () -> x.cite(0, 0, 2, 10));
+        check.refused("cite(2, 0, 2, 0)", x, Check.INDEX, () -> x.cite(2, 0, 2, 0));
+        check.refused("cite(0, 1, 2, 10)", x, Check.INDEX, () -> x.cite(0, 1, 2, 10));
+        check.refused("cite(0, 0, 3, 0)", x, Check.INDEX, () -> x.cite(0, 0, 3, 0));
         for (int bad : OUTSIDE) {
-            check.refused("cite(" + bad + ", 0, 0, 0)", x, INDEX, () -> x.cite(bad, 0, 0, 0));
-            check.refused("cite(0, " + bad + ", 0, 0)", x, INDEX, () -> x.cite(0, bad, 0, 0));
-            check.refused("cite(0, 0, " + bad + ", 0)", x, INDEX, () -> x.cite(0, 0, bad, 0));
-            check.refused("cite(0, 0, 0, " + bad + ")", x, INDEX, () -> x.cite(0, 0, 0, bad));
-            check.refused("cite(0, 0, 1, " + bad + ")", x, INDEX, () -> x.cite(0, 0, 1, bad));
-            check.refused("cite(0, 0, 2, " + bad + ")", x, ARGUMENT, () -> x.cite(0, 0, 2, bad));
+            check.refused("cite(" + bad + ", 0, 0, 0)", x, Check.INDEX, () -> x.cite(bad, 0, 0, 0));
+            check.refused("cite(0, " + bad + ", 0, 0)", x, Check.INDEX, () -> x.cite(0, bad, 0, 0));
+            check.refused("cite(0, 0, " + bad + ", 0)", x, Check.INDEX, () -> x.cite(0, 0, bad, 0));
+            check.refused("cite(0, 0, 0, " + bad + ")", x, Check.INDEX, () -> x.cite(0, 0, 0, bad));
+            check.refused("cite(0, 0, 1, " + bad + ")", x, Check.INDEX, () -> x.cite(0, 0, 1, bad));
+            check.refused("cite(0, 0, 2, " + bad + ")", x, Check.ARGUMENT, () -> x.cite(0, 0, 2, bad));
         }
     }
 
-    private static LodgeProofs withGap(int size) {
-        LodgeProofs x = new LodgeProofs();
-        x.lemma();
-        x.proof(0);
-        x.cite(0, 0, 0, 1);
-        x.cite(0, 0, 2, size);
-        return x;
-    }
-
     private static void patch() {
-        LodgeProofs x = withGap(9);
+        LodgeProofs x = Lodges.withGap(9);
         check.due("patch by 1", 8, () -> x.patch(0, 0, 1, 1));
         check.due("patch by 3", 5, () -> x.patch(0, 0, 1, 3));
         check.due("step(.., 1) is the size still", 9, () -> x.step(0, 0, 1, 1));
@@ -176,35 +164,35 @@ public final class TheLodgeTest {
         x.withdraw(0, 0, 1);
         check.due("patch by more than is open", 0, () -> x.patch(0, 0, 1, 9));
         check.due("proved then", 1, () -> x.told(0, 2));
-        LodgeProofs whole = withGap(9);
+        LodgeProofs whole = Lodges.withGap(9);
         check.due("patch by all", 0, () -> whole.patch(0, 0, 1, 9));
     }
 
     private static void patchRefused() {
-        LodgeProofs x = withGap(4);
-        check.refused("patch(1, 0, 0, 1)", x, INDEX, () -> x.patch(1, 0, 0, 1));
-        check.refused("patch(0, 1, 0, 1)", x, INDEX, () -> x.patch(0, 1, 0, 1));
-        check.refused("patch(0, 0, 2, 1)", x, INDEX, () -> x.patch(0, 0, 2, 1));
-        check.refused("patch(0, 0, 2, 0)", x, INDEX, () -> x.patch(0, 0, 2, 0));
-        check.refused("patch(0, 0, 1, 0)", x, ARGUMENT, () -> x.patch(0, 0, 1, 0));
-        check.refused("patch(0, 0, 1, 10)", x, ARGUMENT, () -> x.patch(0, 0, 1, 10));
-        check.refused("patch(0, 0, 0, 10)", x, ARGUMENT, () -> x.patch(0, 0, 0, 10));
-        check.refused("patch(0, 0, 0, 1)", x, STATE, () -> x.patch(0, 0, 0, 1));
+        LodgeProofs x = Lodges.withGap(4);
+        check.refused("patch(1, 0, 0, 1)", x, Check.INDEX, () -> x.patch(1, 0, 0, 1));
+        check.refused("patch(0, 1, 0, 1)", x, Check.INDEX, () -> x.patch(0, 1, 0, 1));
+        check.refused("patch(0, 0, 2, 1)", x, Check.INDEX, () -> x.patch(0, 0, 2, 1));
+        check.refused("patch(0, 0, 2, 0)", x, Check.INDEX, () -> x.patch(0, 0, 2, 0));
+        check.refused("patch(0, 0, 1, 0)", x, Check.ARGUMENT, () -> x.patch(0, 0, 1, 0));
+        check.refused("patch(0, 0, 1, 10)", x, Check.ARGUMENT, () -> x.patch(0, 0, 1, 10));
+        check.refused("patch(0, 0, 0, 10)", x, Check.ARGUMENT, () -> x.patch(0, 0, 0, 10));
+        check.refused("patch(0, 0, 0, 1)", x, Check.STATE, () -> x.patch(0, 0, 0, 1));
         for (int bad : OUTSIDE) {
-            check.refused("patch(" + bad + ", 0, 1, 1)", x, INDEX, () -> x.patch(bad, 0, 1, 1));
-            check.refused("patch(0, " + bad + ", 1, 1)", x, INDEX, () -> x.patch(0, bad, 1, 1));
-            check.refused("patch(0, 0, " + bad + ", 1)", x, INDEX, () -> x.patch(0, 0, bad, 1));
-            check.refused("patch(0, 0, 1, " + bad + ")", x, ARGUMENT, () -> x.patch(0, 0, 1, bad));
+            check.refused("patch(" + bad + ", 0, 1, 1)", x, Check.INDEX, () -> x.patch(bad, 0, 1, 1));
+            check.refused("patch(0, " + bad + ", 1, 1)", x, Check.INDEX, () -> x.patch(0, bad, 1, 1));
+            check.refused("patch(0, 0, " + bad + ", 1)", x, Check.INDEX, () -> x.patch(0, 0, bad, 1));
+            check.refused("patch(0, 0, 1, " + bad + ")", x, Check.ARGUMENT, () -> x.patch(0, 0, 1, bad));
         }
         x.patch(0, 0, 1, 4);
-        check.refused("patch what is closed", x, STATE, () -> x.patch(0, 0, 1, 1));
-        check.refused("patch what is closed by 0", x, ARGUMENT, () -> x.patch(0, 0, 1, 0));
+        check.refused("patch what is closed", x, Check.STATE, () -> x.patch(0, 0, 1, 1));
+        check.refused("patch what is closed by 0", x, Check.ARGUMENT, () -> x.patch(0, 0, 1, 0));
         x.cite(0, 0, 1, 0);
-        check.refused("patch a lemma", x, STATE, () -> x.patch(0, 0, 2, 1));
+        check.refused("patch a lemma", x, Check.STATE, () -> x.patch(0, 0, 2, 1));
     }
 
     private static void withdraw() {
-        LodgeProofs x = withGap(4);
+        LodgeProofs x = Lodges.withGap(4);
         x.patch(0, 0, 1, 4);
         check.due("withdraw", true, () -> x.withdraw(0, 0, 1));
         check.due("step(0, 0, 1, 3)", 1, () -> x.step(0, 0, 1, 3));
@@ -213,13 +201,13 @@ public final class TheLodgeTest {
         check.due("the steps stay", 2, () -> x.about(0, 0, 0));
         check.due("put back", false, () -> x.withdraw(0, 0, 1));
         check.due("proved then", 1, () -> x.told(0, 2));
-        check.refused("withdraw(1, 0, 0)", x, INDEX, () -> x.withdraw(1, 0, 0));
-        check.refused("withdraw(0, 1, 0)", x, INDEX, () -> x.withdraw(0, 1, 0));
-        check.refused("withdraw(0, 0, 2)", x, INDEX, () -> x.withdraw(0, 0, 2));
+        check.refused("withdraw(1, 0, 0)", x, Check.INDEX, () -> x.withdraw(1, 0, 0));
+        check.refused("withdraw(0, 1, 0)", x, Check.INDEX, () -> x.withdraw(0, 1, 0));
+        check.refused("withdraw(0, 0, 2)", x, Check.INDEX, () -> x.withdraw(0, 0, 2));
         for (int bad : OUTSIDE) {
-            check.refused("withdraw(" + bad + ", 0, 0)", x, INDEX, () -> x.withdraw(bad, 0, 0));
-            check.refused("withdraw(0, " + bad + ", 0)", x, INDEX, () -> x.withdraw(0, bad, 0));
-            check.refused("withdraw(0, 0, " + bad + ")", x, INDEX, () -> x.withdraw(0, 0, bad));
+            check.refused("withdraw(" + bad + ", 0, 0)", x, Check.INDEX, () -> x.withdraw(bad, 0, 0));
+            check.refused("withdraw(0, " + bad + ", 0)", x, Check.INDEX, () -> x.withdraw(0, bad, 0));
+            check.refused("withdraw(0, 0, " + bad + ")", x, Check.INDEX, () -> x.withdraw(0, 0, bad));
         }
     }
 
@@ -282,7 +270,7 @@ public final class TheLodgeTest {
     }
 
     private static void struckIsForgotten() {
-        LodgeProofs x = withGap(4);
+        LodgeProofs x = Lodges.withGap(4);
         x.withdraw(0, 0, 0);
         x.withdraw(0, 0, 1);
         x.strike(0, 0);
@@ -331,14 +319,14 @@ public final class TheLodgeTest {
 
     private static void strikeRefused() {
         LodgeProofs x = withThreeProofs();
-        check.refused("strike(2, 0)", x, INDEX, () -> x.strike(2, 0));
-        check.refused("strike(0, 3)", x, INDEX, () -> x.strike(0, 3));
-        check.refused("strike(1, 1)", x, INDEX, () -> x.strike(1, 1));
+        check.refused("strike(2, 0)", x, Check.INDEX, () -> x.strike(2, 0));
+        check.refused("strike(0, 3)", x, Check.INDEX, () -> x.strike(0, 3));
+        check.refused("strike(1, 1)", x, Check.INDEX, () -> x.strike(1, 1));
         for (int bad : OUTSIDE) {
-            check.refused("strike(" + bad + ", 0)", x, INDEX, () -> x.strike(bad, 0));
-            check.refused("strike(0, " + bad + ")", x, INDEX, () -> x.strike(0, bad));
+            check.refused("strike(" + bad + ", 0)", x, Check.INDEX, () -> x.strike(bad, 0));
+            check.refused("strike(0, " + bad + ")", x, Check.INDEX, () -> x.strike(0, bad));
         }
         x.strike(0, 2);
-        check.refused("strike what was struck", x, INDEX, () -> x.strike(0, 2));
+        check.refused("strike what was struck", x, Check.INDEX, () -> x.strike(0, 2));
     }
 }

@@ -1,6 +1,5 @@
 /** Promises 9 to 13: what there is. */
 public final class WhatThereIsTest {
-    private static final Class<?> INDEX = IndexOutOfBoundsException.class;
     private static final int[] OUTSIDE = {Integer.MIN_VALUE, -1, Integer.MAX_VALUE};
 
     private static final Check check = new Check();
@@ -24,17 +23,6 @@ public final class WhatThereIsTest {
         check.end("WhatThereIsTest");
     }
 
-    private static LodgeProofs lodge(int lemmas, int proofs) {
-        LodgeProofs x = new LodgeProofs();
-        for (int lemma = 0; lemma < lemmas; lemma++) {
-            x.lemma();
-            for (int proof = 0; proof < proofs; proof++) {
-                x.proof(lemma);
-            }
-        }
-        return x;
-    }
-
     private static void dueTold(String when, LodgeProofs x, int lemma, int... answers) {
         for (int what = 0; what < answers.length; what++) {
             int asked = what;
@@ -52,7 +40,7 @@ public final class WhatThereIsTest {
     }
 
     private static void emptyProofs() {
-        LodgeProofs x = lodge(2, 0);
+        LodgeProofs x = Lodges.of(2, 0);
         x.proof(1);
         dueTold("without proofs", x, 0, 0, 0, 0, -1, -1, 0, 0);
         dueTold("with an empty proof", x, 1, 1, 0, 0, -1, -1, 0, 0);
@@ -60,7 +48,7 @@ public final class WhatThereIsTest {
     }
 
     private static void stages() {
-        LodgeProofs x = lodge(4, 1);
+        LodgeProofs x = Lodges.of(4, 1);
         x.cite(3, 0, 0, 0);
         x.cite(2, 0, 1, 3);
         x.cite(1, 0, 1, 2);
@@ -83,7 +71,7 @@ public final class WhatThereIsTest {
     }
 
     private static void stageByOtherProof() {
-        LodgeProofs x = lodge(3, 1);
+        LodgeProofs x = Lodges.of(3, 1);
         x.cite(0, 0, 0, 0);
         x.cite(1, 0, 1, 0);
         x.cite(2, 0, 1, 1);
@@ -99,8 +87,8 @@ public final class WhatThereIsTest {
 
     /** Twelve lemmas in a row, cited upwards and downwards, so that no order of reckoning helps. */
     private static void longChains() {
-        LodgeProofs up = lodge(12, 1);
-        LodgeProofs down = lodge(12, 1);
+        LodgeProofs up = Lodges.of(12, 1);
+        LodgeProofs down = Lodges.of(12, 1);
         up.cite(11, 0, 2, 6);
         down.cite(0, 0, 2, 6);
         for (int lemma = 0; lemma < 11; lemma++) {
@@ -124,7 +112,7 @@ public final class WhatThereIsTest {
     }
 
     private static void lengths() {
-        LodgeProofs x = lodge(3, 1);
+        LodgeProofs x = Lodges.of(3, 1);
         x.cite(0, 0, 0, 0);
         x.cite(0, 0, 0, 1);
         x.cite(1, 0, 1, 0);
@@ -147,7 +135,7 @@ public final class WhatThereIsTest {
     }
 
     private static void lengthsThroughCircles() {
-        LodgeProofs x = lodge(2, 2);
+        LodgeProofs x = Lodges.of(2, 2);
         x.cite(0, 0, 1, 1);
         x.cite(1, 0, 1, 0);
         dueTold("a circle alone", x, 0, 2, 1, 0, -1, -1, 0, 2);
@@ -161,7 +149,7 @@ public final class WhatThereIsTest {
 
     /** Lemma n cites lemma n - 1 four times; so lengths are 1, 8, 36, 148, 596, 2388, 9556. */
     private static LodgeProofs longChain() {
-        LodgeProofs x = lodge(9, 1);
+        LodgeProofs x = Lodges.of(9, 1);
         x.cite(0, 0, 0, 0);
         for (int lemma = 1; lemma < 7; lemma++) {
             for (int step = 0; step < 4; step++) {
@@ -225,7 +213,7 @@ public final class WhatThereIsTest {
     }
 
     private static void prices() {
-        LodgeProofs x = lodge(3, 1);
+        LodgeProofs x = Lodges.of(3, 1);
         x.cite(0, 0, 2, 4);
         x.cite(0, 0, 2, 3);
         x.cite(0, 0, 0, 0);
@@ -255,7 +243,7 @@ public final class WhatThereIsTest {
     }
 
     private static void highPrices() {
-        LodgeProofs x = lodge(8, 1);
+        LodgeProofs x = Lodges.of(8, 1);
         x.cite(0, 0, 2, 9);
         for (int lemma = 1; lemma < 5; lemma++) {
             for (int step = 0; step < 5; step++) {
@@ -289,7 +277,7 @@ public final class WhatThereIsTest {
     }
 
     private static void openGaps() {
-        LodgeProofs x = lodge(2, 3);
+        LodgeProofs x = Lodges.of(2, 3);
         x.cite(0, 0, 2, 9);
         x.cite(0, 1, 2, 5);
         x.cite(0, 2, 0, 0);
@@ -302,7 +290,7 @@ public final class WhatThereIsTest {
     }
 
     private static void circles() {
-        LodgeProofs x = lodge(5, 1);
+        LodgeProofs x = Lodges.of(5, 1);
         x.cite(0, 0, 1, 1);
         x.cite(1, 0, 1, 2);
         x.cite(2, 0, 1, 3);
@@ -326,7 +314,7 @@ public final class WhatThereIsTest {
         dueCircles("struck", x, two);
         x.strike(3, 0);
         dueCircles("struck", x, new int[] {0, 2, 2, 0, 0});
-        LodgeProofs all = lodge(12, 1);
+        LodgeProofs all = Lodges.of(12, 1);
         for (int lemma = 0; lemma < 12; lemma++) {
             all.cite(lemma, 0, 1, (lemma + 1) % 12);
         }
@@ -345,7 +333,7 @@ public final class WhatThereIsTest {
     }
 
     private static void about() {
-        LodgeProofs x = lodge(2, 2);
+        LodgeProofs x = Lodges.of(2, 2);
         x.cite(0, 0, 0, 0);
         x.cite(0, 1, 1, 0);
         x.cite(0, 1, 2, 6);
@@ -362,7 +350,7 @@ public final class WhatThereIsTest {
     }
 
     private static void counts() {
-        LodgeProofs x = lodge(3, 2);
+        LodgeProofs x = Lodges.of(3, 2);
         x.cite(0, 0, 0, 0);
         x.cite(1, 1, 1, 0);
         x.cite(1, 1, 2, 4);
@@ -385,7 +373,7 @@ public final class WhatThereIsTest {
     }
 
     private static void best() {
-        LodgeProofs x = lodge(2, 3);
+        LodgeProofs x = Lodges.of(2, 3);
         check.due("none has a length", -1, () -> x.best(0));
         x.cite(0, 0, 2, 1);
         x.cite(0, 1, 0, 0);
@@ -400,9 +388,9 @@ public final class WhatThereIsTest {
         x.withdraw(0, 0, 0);
         x.take(1, false);
         check.due("none again", -1, () -> x.best(0));
-        LodgeProofs none = lodge(1, 0);
+        LodgeProofs none = Lodges.of(1, 0);
         check.due("without proofs", -1, () -> none.best(0));
-        LodgeProofs struck = lodge(1, 2);
+        LodgeProofs struck = Lodges.of(1, 2);
         struck.cite(0, 0, 0, 0);
         struck.cite(0, 0, 0, 0);
         struck.cite(0, 1, 0, 0);
@@ -412,32 +400,32 @@ public final class WhatThereIsTest {
     }
 
     private static void refused() {
-        LodgeProofs x = lodge(2, 2);
+        LodgeProofs x = Lodges.of(2, 2);
         x.cite(0, 0, 0, 0);
-        check.refused("told(2, 0)", x, INDEX, () -> x.told(2, 0));
-        check.refused("told(0, 7)", x, INDEX, () -> x.told(0, 7));
-        check.refused("step(2, 0, 0, 0)", x, INDEX, () -> x.step(2, 0, 0, 0));
-        check.refused("step(0, 2, 0, 0)", x, INDEX, () -> x.step(0, 2, 0, 0));
-        check.refused("step(0, 0, 1, 0)", x, INDEX, () -> x.step(0, 0, 1, 0));
-        check.refused("step(0, 1, 0, 0)", x, INDEX, () -> x.step(0, 1, 0, 0));
-        check.refused("step(0, 0, 0, 4)", x, INDEX, () -> x.step(0, 0, 0, 4));
-        check.refused("about(2, 0, 0)", x, INDEX, () -> x.about(2, 0, 0));
-        check.refused("about(0, 2, 0)", x, INDEX, () -> x.about(0, 2, 0));
-        check.refused("about(0, 0, 4)", x, INDEX, () -> x.about(0, 0, 4));
-        check.refused("count(7)", x, INDEX, () -> x.count(7));
-        check.refused("best(2)", x, INDEX, () -> x.best(2));
+        check.refused("told(2, 0)", x, Check.INDEX, () -> x.told(2, 0));
+        check.refused("told(0, 7)", x, Check.INDEX, () -> x.told(0, 7));
+        check.refused("step(2, 0, 0, 0)", x, Check.INDEX, () -> x.step(2, 0, 0, 0));
+        check.refused("step(0, 2, 0, 0)", x, Check.INDEX, () -> x.step(0, 2, 0, 0));
+        check.refused("step(0, 0, 1, 0)", x, Check.INDEX, () -> x.step(0, 0, 1, 0));
+        check.refused("step(0, 1, 0, 0)", x, Check.INDEX, () -> x.step(0, 1, 0, 0));
+        check.refused("step(0, 0, 0, 4)", x, Check.INDEX, () -> x.step(0, 0, 0, 4));
+        check.refused("about(2, 0, 0)", x, Check.INDEX, () -> x.about(2, 0, 0));
+        check.refused("about(0, 2, 0)", x, Check.INDEX, () -> x.about(0, 2, 0));
+        check.refused("about(0, 0, 4)", x, Check.INDEX, () -> x.about(0, 0, 4));
+        check.refused("count(7)", x, Check.INDEX, () -> x.count(7));
+        check.refused("best(2)", x, Check.INDEX, () -> x.best(2));
         for (int bad : OUTSIDE) {
-            check.refused("told(" + bad + ", 0)", x, INDEX, () -> x.told(bad, 0));
-            check.refused("told(0, " + bad + ")", x, INDEX, () -> x.told(0, bad));
-            check.refused("step(" + bad + ", 0, 0, 0)", x, INDEX, () -> x.step(bad, 0, 0, 0));
-            check.refused("step(0, " + bad + ", 0, 0)", x, INDEX, () -> x.step(0, bad, 0, 0));
-            check.refused("step(0, 0, " + bad + ", 0)", x, INDEX, () -> x.step(0, 0, bad, 0));
-            check.refused("step(0, 0, 0, " + bad + ")", x, INDEX, () -> x.step(0, 0, 0, bad));
-            check.refused("about(" + bad + ", 0, 0)", x, INDEX, () -> x.about(bad, 0, 0));
-            check.refused("about(0, " + bad + ", 0)", x, INDEX, () -> x.about(0, bad, 0));
-            check.refused("about(0, 0, " + bad + ")", x, INDEX, () -> x.about(0, 0, bad));
-            check.refused("count(" + bad + ")", x, INDEX, () -> x.count(bad));
-            check.refused("best(" + bad + ")", x, INDEX, () -> x.best(bad));
+            check.refused("told(" + bad + ", 0)", x, Check.INDEX, () -> x.told(bad, 0));
+            check.refused("told(0, " + bad + ")", x, Check.INDEX, () -> x.told(0, bad));
+            check.refused("step(" + bad + ", 0, 0, 0)", x, Check.INDEX, () -> x.step(bad, 0, 0, 0));
+            check.refused("step(0, " + bad + ", 0, 0)", x, Check.INDEX, () -> x.step(0, bad, 0, 0));
+            check.refused("step(0, 0, " + bad + ", 0)", x, Check.INDEX, () -> x.step(0, 0, bad, 0));
+            check.refused("step(0, 0, 0, " + bad + ")", x, Check.INDEX, () -> x.step(0, 0, 0, bad));
+            check.refused("about(" + bad + ", 0, 0)", x, Check.INDEX, () -> x.about(bad, 0, 0));
+            check.refused("about(0, " + bad + ", 0)", x, Check.INDEX, () -> x.about(0, bad, 0));
+            check.refused("about(0, 0, " + bad + ")", x, Check.INDEX, () -> x.about(0, 0, bad));
+            check.refused("count(" + bad + ")", x, Check.INDEX, () -> x.count(bad));
+            check.refused("best(" + bad + ")", x, Check.INDEX, () -> x.best(bad));
         }
     }
 }

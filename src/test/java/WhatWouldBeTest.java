@@ -1,6 +1,5 @@
 /** Promises 14 to 18: what would be. */
 public final class WhatWouldBeTest {
-    private static final Class<?> INDEX = IndexOutOfBoundsException.class;
     private static final int[] OUTSIDE = {Integer.MIN_VALUE, -1, Integer.MAX_VALUE};
 
     private static final Check check = new Check();
@@ -16,19 +15,8 @@ public final class WhatWouldBeTest {
         check.end("WhatWouldBeTest");
     }
 
-    private static LodgeProofs lodge(int lemmas, int proofs) {
-        LodgeProofs x = new LodgeProofs();
-        for (int lemma = 0; lemma < lemmas; lemma++) {
-            x.lemma();
-            for (int proof = 0; proof < proofs; proof++) {
-                x.proof(lemma);
-            }
-        }
-        return x;
-    }
-
     private static void without() {
-        LodgeProofs x = lodge(5, 1);
+        LodgeProofs x = Lodges.of(5, 1);
         x.cite(0, 0, 0, 0);
         x.cite(1, 0, 1, 0);
         x.cite(2, 0, 1, 1);
@@ -45,14 +33,14 @@ public final class WhatWouldBeTest {
         x.proof(2);
         x.cite(2, 1, 0, 3);
         check.unchanged("another proof behind it", x, 2, () -> x.without(0));
-        check.refused("without(5)", x, INDEX, () -> x.without(5));
+        check.refused("without(5)", x, Check.INDEX, () -> x.without(5));
         for (int bad : OUTSIDE) {
-            check.refused("without(" + bad + ")", x, INDEX, () -> x.without(bad));
+            check.refused("without(" + bad + ")", x, Check.INDEX, () -> x.without(bad));
         }
     }
 
     private static void needs() {
-        LodgeProofs x = lodge(4, 1);
+        LodgeProofs x = Lodges.of(4, 1);
         x.cite(0, 0, 0, 0);
         x.cite(1, 0, 1, 0);
         x.cite(1, 0, 0, 4);
@@ -71,16 +59,16 @@ public final class WhatWouldBeTest {
         x.take(2, false);
         check.unchanged("by one again", x, true, () -> x.needs(0, 0));
         check.unchanged("an axiom that is not taken", x, false, () -> x.needs(0, 2));
-        check.refused("needs(4, 0)", x, INDEX, () -> x.needs(4, 0));
-        check.refused("needs(0, 5)", x, INDEX, () -> x.needs(0, 5));
+        check.refused("needs(4, 0)", x, Check.INDEX, () -> x.needs(4, 0));
+        check.refused("needs(0, 5)", x, Check.INDEX, () -> x.needs(0, 5));
         for (int bad : OUTSIDE) {
-            check.refused("needs(" + bad + ", 0)", x, INDEX, () -> x.needs(bad, 0));
-            check.refused("needs(0, " + bad + ")", x, INDEX, () -> x.needs(0, bad));
+            check.refused("needs(" + bad + ", 0)", x, Check.INDEX, () -> x.needs(bad, 0));
+            check.refused("needs(0, " + bad + ")", x, Check.INDEX, () -> x.needs(0, bad));
         }
     }
 
     private static void advise() {
-        LodgeProofs x = lodge(12, 1);
+        LodgeProofs x = Lodges.of(12, 1);
         check.unchanged("no gap", x, -1, x::advise);
         x.proof(11);
         x.proof(11);
@@ -110,7 +98,7 @@ public final class WhatWouldBeTest {
     }
 
     private static void adviseTies() {
-        LodgeProofs x = lodge(3, 3);
+        LodgeProofs x = Lodges.of(3, 3);
         x.cite(2, 0, 2, 1);
         check.unchanged("one", x, 200, x::advise);
         x.cite(1, 2, 0, 0);
@@ -128,7 +116,7 @@ public final class WhatWouldBeTest {
     }
 
     private static void adviseThroughCircle() {
-        LodgeProofs x = lodge(3, 2);
+        LodgeProofs x = Lodges.of(3, 2);
         x.cite(0, 0, 1, 1);
         x.cite(1, 0, 1, 0);
         x.cite(1, 1, 2, 3);
@@ -160,7 +148,7 @@ public final class WhatWouldBeTest {
     }
 
     private static void digest() {
-        LodgeProofs x = lodge(2, 1);
+        LodgeProofs x = Lodges.of(2, 1);
         x.proof(0);
         x.cite(0, 0, 0, 3);
         x.cite(0, 1, 2, 8);
@@ -183,7 +171,7 @@ public final class WhatWouldBeTest {
             d = d * 31 + number;
         }
         check.unchanged("digest()", x, d, x::digest);
-        LodgeProofs none = lodge(1, 0);
+        LodgeProofs none = Lodges.of(1, 0);
         long e = 1847;
         for (int number : new int[] {1, 0, 5, 0, 0, 0, 0, 1, 1, 1, 1, 1, 0, 0, 0, -1, -1, 0, 0}) {
             e = e * 31 + number;
