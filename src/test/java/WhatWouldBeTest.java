@@ -145,6 +145,8 @@ public final class WhatWouldBeTest {
         x.proof(2);
         x.cite(2, 0, 1, 2);
         check.unchanged("of three lemmas", x, 4.0 / 3, x::mean);
+        double steps = x.told(0, 1) + x.told(1, 1) + x.told(2, 1);
+        check.unchanged("of what told() tells of each lemma", x, steps / x.count(0), x::mean);
     }
 
     private static void digest() {
